@@ -76,8 +76,8 @@ public final class PriceRise {
 
     public int room(int v) {
         if (v < 0 || v > MOST_ROOM) return BAD;
-        int was = loads.most;
-        loads.most = v;
+        int was = loads.space;
+        loads.space = v;
         forgetPlans();
         return was;
     }
@@ -251,7 +251,7 @@ public final class PriceRise {
         h = links.mixLinks(h);
         for (int i = 0; i < pairs.size; i++) h = pairs.mixLine(h, i);
         h = loads.mixThings(h);
-        h = mix(h, loads.most);
+        h = mix(h, loads.space);
         h = heaps.mixBlocks(h);
         h = mix(h, fraction.above);
         return mix(h, fraction.below);
@@ -488,7 +488,7 @@ public final class PriceRise {
     private static final class Loads extends Kind {
         private static final int MOST = 8;
         private final int[] weight = new int[MOST];
-        private int most = 20;
+        private int space = 20;
 
         Loads() {
             super(new Parts(MOST), GREATEST);
@@ -502,7 +502,7 @@ public final class PriceRise {
 
         void listPlans(PlanList found) {
             for (int load = 0; load <= parts.all(); load++) {
-                if (weightOf(load) <= most) found.insert(load);
+                if (weightOf(load) <= space) found.insert(load);
             }
         }
 

@@ -94,6 +94,7 @@ public final class ModelTest {
             case 6 -> {
                 if (draw.nextInt(6) != 0) return;
                 due("clear()", x.clear(), m.clear());
+                for (int i = 0; i < 4; i++) ask();
                 buildUp();
             }
             case 7 -> {

@@ -237,6 +237,11 @@ public final class PromiseTest {
         due("11 blocks", x.clear(), 2);
         due("11 blocks", x.count(2), 0);
         due("11 a new first link", x.link(1, 2, 3, 4), 0);
+        PriceRise seen = threeWays();
+        due("11 plans ahead", seen.pieces(), 3);
+        due("11 seen", seen.clear(), 3);
+        due("11 no plans", seen.plans(0), 0);
+        due("11 no pieces", seen.pieces(), PriceRise.NO);
         due("11 a new first block", x.block(1, 2), 0);
     }
 
