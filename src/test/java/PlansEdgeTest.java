@@ -754,6 +754,23 @@ public final class PlansEdgeTest {
         }
     }
 
+    /** What more PLANS there were ahead of clear, better ones than now, is gone. */
+    private static void fewerThanAhead() {
+        PriceRise x = ways(5, 5, 6, 4, -100, 9, 90, 1, 7, 3);
+        for (Edges.Call call : ASKED) call.on(x);
+        x.clear();
+        x.link(0, 5, 5, 5);
+        x.link(0, 5, 6, 4);
+        PriceRise fresh = ways(5, 5, 6, 4);
+        // Both begin with the same FRACTION, which some of the calls leave as it is.
+        x.bestAt(0, 1);
+        fresh.bestAt(0, 1);
+        for (int i = 0; i < ASKED.length; i++) {
+            due("11 fewer than ahead, call " + i, ASKED[i].on(x), ASKED[i].on(fresh));
+            EDGES.check.fraction("11 fewer than ahead, call " + i, x, fresh.part(0), fresh.part(1));
+        }
+    }
+
     private static void digestChangesNothing() {
         for (int kind = 0; kind < 5; kind++) {
             PriceRise x = Edges.full(kind);
@@ -808,6 +825,7 @@ public final class PlansEdgeTest {
         digestAtFirst();
         digestFull();
         askedFirst();
+        fewerThanAhead();
         digestChangesNothing();
         EDGES.check.end();
     }
